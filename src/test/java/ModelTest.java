@@ -286,6 +286,30 @@ public final class ModelTest {
             ask(words, call, n, a, b, c), model.ask(call, n, a, b, c));
     }
 
+    /** The last generation with all the letters that it may have: every question looks at its last place. */
+    private static void fullest() {
+        GrowthWords words = new GrowthWords();
+        Model model = new Model();
+        int[] changes = {0, 10, 1, 1, 2, 16};
+        for (int i = 0; i < changes.length; i += 2) {
+            int letter = changes[i];
+            int word = changes[i + 1];
+            due(-1, 2, letter + ", " + word, words.rule(letter, word), model.rule(letter, word));
+            due(-1, 4, letter + ", " + (letter + 1), words.action(letter, letter + 1), model.action(letter, letter + 1));
+        }
+        int first = Integer.parseInt("3222222", 7);
+        due(-1, 3, "" + first, words.begin(first), model.begin(first));
+        due(-1, 5, "12", words.length(12), 3000);
+        for (int call = 5; call <= 16; call++) {
+            for (int a : new int[] {0, 1, 2, 3, 10, 12, 16, 2998, 2999, 3000, 3001, Integer.MAX_VALUE}) {
+                int b = 2990;
+                int c = Integer.MAX_VALUE;
+                due(-1, call, "12, " + a + ", " + b + ", " + c,
+                    ask(words, call, 12, a, b, c), model.ask(call, 12, a, b, c));
+            }
+        }
+    }
+
     /** A run that never came to an answer would not test it. */
     private static void wasSeen(String answers) {
         for (String answer : answers.split(" ")) {
@@ -297,6 +321,7 @@ public final class ModelTest {
     }
 
     public static void main(String[] args) {
+        fullest();
         for (int object = 0; object < OBJECTS; object++) {
             GrowthWords words = new GrowthWords();
             Model model = new Model();
