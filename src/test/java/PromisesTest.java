@@ -1,69 +1,5 @@
 /** One group of checks for each promise of the document; what is due is worked out by hand. */
-public final class PromisesTest {
-    private static final int MIN = Integer.MIN_VALUE;
-    private static final int MAX = Integer.MAX_VALUE;
-    private static final int ORIGIN = 8192 * 4096 + 4096;
-
-    private static int wrong = 0;
-
-    private static void due(String call, int got, int want) {
-        if (got != want) {
-            wrong++;
-            System.out.println(call + " answered " + got + ", due is " + want);
-        }
-    }
-
-    private static int word(int... letters) {
-        int number = 0;
-        int weight = 1;
-        for (int letter : letters) {
-            number += weight * (letter + 1);
-            weight *= 7;
-        }
-        return number;
-    }
-
-    private static int at(int x, int y) {
-        return 8192 * (x + 4096) + y + 4096;
-    }
-
-    private static GrowthWords beginning(int... letters) {
-        GrowthWords words = new GrowthWords();
-        due("begin", words.begin(word(letters)), letters.length);
-        return words;
-    }
-
-    /** Generations 0, 1, .. are 0, 01, 010, 01001, 01001010, .. */
-    private static GrowthWords fibonacci() {
-        GrowthWords words = new GrowthWords();
-        due("fibonacci: rule 0", words.rule(0, word(0, 1)), 2);
-        due("fibonacci: rule 1", words.rule(1, word(0)), 1);
-        return words;
-    }
-
-    /** Generation 5 has 4096 letters, so that it and all after it are too long; generation 4 has 1024. */
-    private static GrowthWords fourfold() {
-        GrowthWords words = beginning(0, 0, 0, 0);
-        due("fourfold: rule 0", words.rule(0, word(0, 0, 0, 0)), 4);
-        return words;
-    }
-
-    /** Letter 0 goes on, letter 1 turns up, letter 2 turns down. */
-    private static GrowthWords drawing(int... letters) {
-        GrowthWords words = beginning(letters);
-        due("drawing: action 0", words.action(0, 1), 0);
-        due("drawing: action 1", words.action(1, 2), 0);
-        due("drawing: action 2", words.action(2, 3), 0);
-        return words;
-    }
-
-    private static void holds(String when, GrowthWords words, int n, int... letters) {
-        due(when + ": length(" + n + ")", words.length(n), letters.length);
-        for (int place = 0; place < letters.length; place++) {
-            due(when + ": letterAt(" + n + ", " + place + ")", words.letterAt(n, place), letters[place]);
-        }
-    }
-
+public final class PromisesTest extends Checks {
     private static void newObject() {
         GrowthWords words = new GrowthWords();
         for (int n = 0; n <= 12; n++) {
@@ -462,9 +398,6 @@ public final class PromisesTest {
         point();
         direction();
         extent();
-        System.out.println(wrong == 0 ? "all answers are as due" : wrong + " answers are not as due");
-        if (wrong != 0) {
-            System.exit(1);
-        }
+        end();
     }
 }
